@@ -293,11 +293,9 @@ public final class RulerFoot {
     // ---- tried
 
     public int longAt(int n, int what) {
-        if (!within(n, 0, YEARS_A_CALL) || !within(what, 0, 1)) {
-            return OUTSIDE;
-        }
-        if (noRealm()) {
-            return NOT;
+        int refusal = refusalOfTrial(n, what);
+        if (refusal != ALLOWED) {
+            return refusal;
         }
         beginTrial();
         for (int i = 0; i < n; i++) {
@@ -324,11 +322,9 @@ public final class RulerFoot {
     }
 
     public int planeWhen(int n, int what) {
-        if (!within(n, 0, YEARS_A_CALL) || !within(what, 0, 1)) {
-            return OUTSIDE;
-        }
-        if (noRealm()) {
-            return NOT;
+        int refusal = refusalOfTrial(n, what);
+        if (refusal != ALLOWED) {
+            return refusal;
         }
         beginTrial();
         int best = 0;
@@ -586,6 +582,13 @@ public final class RulerFoot {
             return NOT;
         }
         return now.rod.years > YEARS_BEFORE_FULL ? FULL : ALLOWED;
+    }
+
+    private int refusalOfTrial(int n, int what) {
+        if (!within(n, 0, YEARS_A_CALL) || !within(what, 0, 1)) {
+            return OUTSIDE;
+        }
+        return noRealm() ? NOT : ALLOWED;
     }
 
     private int draw(int n) {

@@ -113,15 +113,22 @@ public final class DoneTest {
         Due.due("thing(0, 0)", 1050, foot.thing(0, 0));
         Due.due("thing(0, 1)", 2, foot.thing(0, 1));
         Due.due("thing(0, 3)", 2, foot.thing(0, 3));
+        Due.due("thing(18, 0)", 1484, foot.thing(18, 0));
+        Due.due("thing(18, 1)", 20, foot.thing(18, 1));
         Due.due("thing(18, 2)", 2, foot.thing(18, 2));
+        Due.due("thing(18, 3)", 20, foot.thing(18, 3));
         Due.due("thing(19, 0)", 1462, foot.thing(19, 0));
         Due.due("thing(19, 1)", 19, foot.thing(19, 1));
         Due.due("thing(19, 2)", 3, foot.thing(19, 2));
         Due.due("thing(19, 3)", 20, foot.thing(19, 3));
         Due.due("undo()", 15, foot.undo());
         Due.due("undo()", 14, foot.undo());
-        Due.due("thing(0, 1) undone", 0, foot.thing(0, 1));
-        Due.due("thing(19, 2) undone", 1, foot.thing(19, 2));
+        for (int i = 0; i < 20; i++) {
+            Due.due("thing(" + i + ", 0) undone", 1000 + 24 * i + 2, foot.thing(i, 0));
+            Due.due("thing(" + i + ", 1) undone", i, foot.thing(i, 1));
+            Due.due("thing(" + i + ", 2) undone", 1, foot.thing(i, 2));
+            Due.due("thing(" + i + ", 3) undone", i, foot.thing(i, 3));
+        }
     }
 
     private static void warping() {
@@ -198,7 +205,13 @@ public final class DoneTest {
         Due.due("drop()", 2, foot.drop());
         Due.due("told(9)", 0, foot.told(9));
         Due.due("hand(0)", Due.UNKNOWN, foot.hand(0));
-        Due.due("undo()", 4, foot.undo());
+        foot.lose(false);
+        foot.hold(-5);
+        foot.hold(-6);
+        for (int i = 7; i >= 4; i--) {
+            Due.due("undo()", i, foot.undo());
+        }
+        Due.due("hand(0) again", 25, foot.hand(0));
         Due.due("hand(1) again", 26, foot.hand(1));
         RulerFoot none = new RulerFoot();
         Due.due("drop() of no realm", 0, none.drop());

@@ -191,7 +191,7 @@ public final class TextTest {
         foot.see(1, 24);
         foot.write(0, 9);
         foot.keep(0);
-        foot.drop();
+        foot.lose(true);
         Due.due("realm()", 30, Due.tell(foot, "r30 2;p50;"));
         int[] want = {30, 0, 0, 1, 0, 0, 30, 0, 0, 0, Due.NONE, 0, 0, 0};
         for (int what = 0; what < want.length; what++) {
@@ -202,6 +202,19 @@ public final class TextTest {
         Due.due("undo()", Due.NOT, foot.undo());
         Due.due("goBack(0)", Due.NOT, foot.goBack(0));
         Due.due("seed(0)", 77, foot.seed(0));
+        Due.due("realm()", 31, Due.tell(foot, "r31 1;"));
+        for (int what = 1; what <= 3; what++) {
+            Due.due("told(" + what + ") of a third realm", 0, foot.told(what));
+        }
+        Due.due("realm()", 32, Due.tell(foot, "r32 1;n1;n2;n3;n4;n5;o1 1;p1;d5;"));
+        Due.due("realm()", 33, Due.tell(foot, "r33 1;"));
+        Due.due("realm()", 34, Due.tell(foot, "r34 1;n1;"));
+        Due.due("told(1) of a later realm", 1, foot.told(1));
+        Due.due("told(2) of a later realm", 0, foot.told(2));
+        Due.due("told(3) of a later realm", 0, foot.told(3));
+        Due.due("longAt(1, 1) of a later realm", 1000, foot.longAt(1, 1));
+        Due.due("realm() told by a fault", -13, Due.tell(foot, "r34 1;d5;d5;"));
+        Due.due("realm()", 35, Due.tell(foot, "r35 1;d5;"));
     }
 
     private static void faultLeavesAll() {

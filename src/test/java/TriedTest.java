@@ -124,6 +124,13 @@ public final class TriedTest {
         worn.year(1);
         Due.due("had(1) without the nick", Due.NONE, worn.had(1));
         Due.due("had(26) by the whole alone", 2, worn.had(26));
+        RulerFoot least = Due.realmOf("r12 9;n1;");
+        least.year(2);
+        Due.due("had(20) by one hair", 20, least.had(20));
+        Due.due("had(21) by one hair", Due.NONE, least.had(21));
+        RulerFoot all = Due.realmOf("r240 0;n1;n2;n3;n4;n5;");
+        Due.due("had(999) by six lengths", 12, all.had(999));
+        Due.due("had(235) by six lengths", 2, all.had(235));
     }
 
     private static void parts() {
@@ -141,6 +148,9 @@ public final class TriedTest {
         RulerFoot plain = Due.realmOf("r24 0;");
         Due.due("parts(NONE)", 1, plain.parts(Due.NONE));
         Due.due("parts(0)", 24, plain.parts(0));
+        RulerFoot fine = Due.realmOf("r24 0;n23;");
+        Due.due("parts(0) of one hair", 1, fine.parts(0));
+        Due.due("parts(NONE) of three", 3, fine.parts(Due.NONE));
     }
 
     private static void fold() {
@@ -183,6 +193,11 @@ public final class TriedTest {
         for (int o = 0; o < 6; o++) {
             Due.due("posts(" + o + ") of six", 5 - o, six.posts(o));
         }
+        // An office that gets none takes nobody from a later one; an earlier realm leaves nothing behind.
+        Due.due("realm()", 20, Due.tell(six, "r20 0;o90 99;o10 10;p20;"));
+        Due.due("posts(NONE) of another realm", 1, six.posts(Due.NONE));
+        Due.due("posts(0) of another realm", Due.NONE, six.posts(0));
+        Due.due("posts(1) of another realm", 0, six.posts(1));
         Due.due("posts(NONE) of no realm", 0, new RulerFoot().posts(Due.NONE));
         Due.due("posts(0) of no realm", Due.UNKNOWN, new RulerFoot().posts(0));
     }
@@ -284,6 +299,7 @@ public final class TriedTest {
         Due.due("hands(4)", Due.OUTSIDE, foot.hands(4));
         Due.due("hands(-1)", Due.OUTSIDE, foot.hands(-1));
         foot.hold(5);
+        handsAre(foot, 29, 29, 0, 0);
         foot.hold(-3);
         handsAre(foot, 25, 21, 0, 1);
         foot.hold(-3);
