@@ -11,6 +11,7 @@ public final class TextTest {
         firstFaultIsTold();
         realmReplacesAll();
         faultLeavesAll();
+        lettersOfAnEarlierText();
         Due.end();
     }
 
@@ -239,5 +240,18 @@ public final class TextTest {
         Due.due("goBack(1)", 1, foot.goBack(1));
         Due.due("realm() of nothing", 0, foot.realm());
         Due.due("fault()", Due.NONE, foot.fault());
+    }
+
+    /** What an earlier, longer text had behind the end of this one is no part of it. */
+    private static void lettersOfAnEarlierText() {
+        RulerFoot foot = new RulerFoot();
+        Due.due("realm()", 24, Due.tell(foot, "r24 1;n5;"));
+        Due.due("realm() without its ';'", -11, Due.tell(foot, "r24 1"));
+        Due.due("fault()", 5, foot.fault());
+        Due.due("realm()", -12, Due.tell(foot, "r24 12  ;n5;"));
+        Due.due("realm() ended by its ';'", -11, Due.tell(foot, "r24 1"));
+        Due.due("fault()", 5, foot.fault());
+        Due.due("realm() of fewer blanks", -11, Due.tell(foot, "r24 1 "));
+        Due.due("fault()", 6, foot.fault());
     }
 }
