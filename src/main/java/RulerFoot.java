@@ -99,7 +99,9 @@ public final class RulerFoot {
         draft = replaced;
         now.begin(law);
         past.forget();
-        Arrays.fill(imageKept, false);
+        for (int i = 0; i < IMAGES; i++) {
+            imageKept[i] = false;
+        }
         sight.count = 0;
         book.count = 0;
         return law.length;
