@@ -233,30 +233,42 @@ public final class DoneTest {
         Due.due("told(13)", 4, foot.told(13));
     }
 
-    /** The draws of seed 0 are counted here anew. */
     private static void drifting() {
+        int[] met = new int[8];
+        int[] metLost = new int[8];
+        for (int seed = 0; seed < 5; seed++) {
+            driftingFrom(seed, met, metLost);
+        }
+        for (int chance = 0; chance < 8; chance++) {
+            Due.due("chance " + chance + " was met", 1, met[chance] > 0 ? 1 : 0);
+            Due.due("chance " + chance + " was met by a lost rod", 1, metLost[chance] > 0 ? 1 : 0);
+        }
         RulerFoot foot = Due.realmOf("r240 1;d5,3,9;");
-        long seed = 0;
+        Due.due("drift(0)", Due.OUTSIDE, foot.drift(0));
+        Due.due("drift(61)", Due.OUTSIDE, foot.drift(61));
+        Due.due("drift(1) of no realm", Due.NOT, new RulerFoot().drift(1));
+        Due.due("drift(0) of no realm", Due.OUTSIDE, new RulerFoot().drift(0));
+    }
+
+    /** The draws are counted here anew, year by year. */
+    private static void driftingFrom(int start, int[] met, int[] metLost) {
+        RulerFoot foot = Due.realmOf("r240 1;d5,3,9;");
+        foot.seed(start);
+        Draws draws = new Draws(start);
         int length = 240;
         int bend = 0;
         boolean lost = false;
         int things = 0;
         int last = 0;
-        int[] seen = new int[8];
-        int[] seenLost = new int[8];
         int[] sways = {1, -1, 5};
-        for (int year = 0; year < 200; year++) {
-            seed = (seed * 1103515245L + 12345) % 2147483648L;
-            int chance = (int) (seed / 65536 % 8);
-            seen[chance]++;
-            if (lost) {
-                seenLost[chance]++;
-            }
+        for (int year = 0; year < 60; year++) {
+            int chance = draws.draw(8);
+            met[chance]++;
+            metLost[chance] += lost ? 1 : 0;
             if (chance < 2) {
                 lost = chance == 0;
             } else if (chance < 4) {
-                seed = (seed * 1103515245L + 12345) % 2147483648L;
-                int drawn = (int) (seed / 65536 % (chance == 2 ? 21 : 10));
+                int drawn = draws.draw(chance == 2 ? 21 : 10);
                 if (!lost && chance == 2) {
                     bend = drawn - 10;
                 }
@@ -278,23 +290,13 @@ public final class DoneTest {
                 Due.due("thing in " + year, last + 1000, foot.thing(things - 1, 0));
             }
         }
-        Due.due("seed(0)", seed, foot.seed(0));
-        for (int chance = 0; chance < 4; chance++) {
-            Due.due("chance " + chance + " was met", 1, seen[chance] > 0 ? 1 : 0);
-            Due.due("chance " + chance + " was met by a lost rod", 1, seenLost[chance] > 0 ? 1 : 0);
-        }
+        Due.due("seed(0)", draws.seed(), foot.seed(0));
         RulerFoot other = Due.realmOf("r240 1;d5,3,9;");
-        for (int i = 0; i < 3; i++) {
-            other.drift(60);
-        }
-        other.drift(20);
-        Due.due("told(6) of longer drifts", length, other.told(6));
-        Due.due("warped() of longer drifts", bend + 1000, other.warped());
-        Due.due("seed(0) of longer drifts", seed, other.seed(0));
-        Due.due("drift(0)", Due.OUTSIDE, other.drift(0));
-        Due.due("drift(61)", Due.OUTSIDE, other.drift(61));
-        Due.due("drift(1) of no realm", Due.NOT, new RulerFoot().drift(1));
-        Due.due("drift(0) of no realm", Due.OUTSIDE, new RulerFoot().drift(0));
+        other.seed(start);
+        Due.due("drift(60)", things, other.drift(60));
+        Due.due("told(6) of one drift", length, other.told(6));
+        Due.due("warped() of one drift", bend + 1000, other.warped());
+        Due.due("seed(0) of one drift", draws.seed(), other.seed(0));
     }
 
     private static void driftingKeepsTwenty() {

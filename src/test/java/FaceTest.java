@@ -24,8 +24,12 @@ public final class FaceTest {
         "lean(int,int,int)", "foundBy(int,int)", "see(int,int)", "rods(int)", "door()", "write(int,int)", "tear()",
         "judge()", "seed(int)", "keep(int)", "goBack(int)"};
     private static final String[] BANNED = {"\\bthrow\\b", "\\btry\\b", "\\bcatch\\b", "\\bsynchronized\\b",
-        "\\bassert\\b", "->", "::", "Exact\\b", "\\bObject\\b", "\\bhashCode\\b", "\\bvar\\b", "static\\s*\\{",
-        "\\bprotected\\b", "\\bpackage\\b", "\\+ \"", "\" \\+", "\\bfloat\\b", "\\bdouble\\b"};
+        "\\bassert\\b", "->", "::", "Exact\\b", "\\bObject\\b", "\\bhashCode\\b", "\\btoString\\(\\) *\\{",
+        "static\\s*\\{", "\\bprotected\\b", "\\bpackage\\b", "\\+ \"", "\" \\+"};
+    /** Of the library, what LANGUAGE.md lists; of the functions over numbers, the likes of those that it names. */
+    private static final String LIBRARY = "System\\.arraycopy|Arrays\\.(copyOf|copyOfRange|fill)"
+        + "|(Math|Integer|Long)\\.(max|min|abs|compare|signum|bitCount|floorDiv|floorMod"
+        + "|numberOf\\w+Zeros|\\w+OneBit|M.._VALUE)";
 
     public static void main(String[] args) throws IOException {
         constants();
@@ -99,24 +103,26 @@ public final class FaceTest {
             holds(inside + " is not open", !Modifier.isPublic(inside.getModifiers())
                     && !Modifier.isProtected(inside.getModifiers()));
             for (Method method : inside.getDeclaredMethods()) {
-                holds(method + " has a name of its own", !names.contains(method.getName()));
+                holds(method + " has a name of its own",
+                        !Modifier.isPrivate(method.getModifiers()) || !names.contains(method.getName()));
                 holds(method + " takes seven at most", method.getParameterCount() <= 7);
             }
         }
     }
 
     private static void words(String source) {
+        // The arrow of a switch is none of a lambda.
+        String plain = source.replaceAll("(case [^:;>]*|default *)->", "$1");
         for (String banned : BANNED) {
-            holds("no " + banned, !Pattern.compile(banned).matcher(source).find());
+            holds("no " + banned, !Pattern.compile(banned).matcher(plain).find());
         }
         Matcher imports = Pattern.compile("import .*").matcher(source);
         while (imports.find()) {
-            holds(imports.group(), imports.group().equals("import java.util.Arrays;"));
+            holds(imports.group(), imports.group().matches("import java\\.util\\.(Arrays|ArrayList|List|Iterator);"));
         }
         Matcher uses = Pattern.compile("\\b(Math|System|Arrays|String|Integer|Long)\\.\\w+").matcher(source);
-        Set<String> allowed = Set.of("Math.max", "Math.min", "Math.abs", "System.arraycopy", "Arrays.fill");
         while (uses.find()) {
-            holds(uses.group(), allowed.contains(uses.group()));
+            holds(uses.group(), uses.group().matches(LIBRARY));
         }
     }
 

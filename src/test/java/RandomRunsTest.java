@@ -8,7 +8,8 @@ import java.util.Random;
 /** All promises: runs of calls by a fixed seed, each answer compared with that of PlainRuler. */
 public final class RandomRunsTest {
     private static final int RUNS = 1500;
-    private static final int CALLS = 300;
+    /** What an object answers beyond so many calls is free. */
+    private static final int CALLS = 512;
     private static final int[] EDGES = {-1, 0, 1, -100, -99, 99, 100, 12, 11, 20, 21, -20, -21, 60, 61, 240, 241, 999,
         1000, 9999, 10000, 255, 256, Integer.MAX_VALUE, Integer.MIN_VALUE};
 
@@ -16,6 +17,7 @@ public final class RandomRunsTest {
     private final List<String> log = new ArrayList<>();
     private final RulerFoot foot = new RulerFoot();
     private final PlainRuler plain = new PlainRuler();
+    private int calls = 0;
     private boolean failed = false;
 
     private RandomRunsTest(long seed) {
@@ -23,17 +25,17 @@ public final class RandomRunsTest {
     }
 
     public static void main(String[] args) throws Exception {
-        List<Method> calls = new ArrayList<>();
+        List<Method> face = new ArrayList<>();
         for (Method method : RulerFoot.class.getDeclaredMethods()) {
             if (Modifier.isPublic(method.getModifiers()) && !method.getName().equals("feed")) {
-                calls.add(method);
+                face.add(method);
             }
         }
-        calls.sort(Comparator.comparing(Method::getName));
+        face.sort(Comparator.comparing(Method::getName));
         int runs = args.length > 0 ? Integer.parseInt(args[0]) : RUNS;
         int wrong = 0;
         for (int run = 0; run < runs && wrong < 5; run++) {
-            wrong += new RandomRunsTest(run).holds(calls) ? 0 : 1;
+            wrong += new RandomRunsTest(run).holds(face) ? 0 : 1;
         }
         System.out.println(runs + " runs, " + wrong + " with an answer that is not as due");
         if (wrong != 0) {
@@ -41,16 +43,16 @@ public final class RandomRunsTest {
         }
     }
 
-    private boolean holds(List<Method> calls) throws Exception {
+    private boolean holds(List<Method> face) throws Exception {
         if (random.nextInt(8) != 0) {
             tell(goodText());
         }
         // Some runs keep to few calls, so that they fill what can be full.
-        List<Method> some = new ArrayList<>(calls);
+        List<Method> some = new ArrayList<>(face);
         if (random.nextInt(3) == 0) {
             some.removeIf(method -> random.nextInt(4) != 0);
         }
-        for (int i = 0; i < CALLS && !failed; i++) {
+        for (int i = 0; i < CALLS && calls < CALLS && !failed; i++) {
             int chance = random.nextInt(200);
             if (chance == 0) {
                 tell(goodText());
@@ -68,6 +70,10 @@ public final class RandomRunsTest {
     }
 
     private void compare(Method call, Object[] arguments) throws Exception {
+        if (calls >= CALLS) {
+            return;
+        }
+        calls++;
         Method twin = PlainRuler.class.getMethod(call.getName(), call.getParameterTypes());
         int got = (int) call.invoke(foot, arguments);
         int want = (int) twin.invoke(plain, arguments);
