@@ -318,26 +318,36 @@ public final class RodBoundsTest {
     private static void thingsAre20AtMost() {
         RulerFoot foot = Due.realmOf("r240 0;");
         for (int i = 0; i < 19; i++) {
-            foot.make(i, 0);
+            foot.make(i, i % 12);
+            foot.year(1);
         }
         Due.due("told(8) of 19", 19, foot.told(8));
-        foot.make(19, 0);
-        Due.due("told(8) of 20", 20, foot.told(8));
-        Due.due("thing(0, 1) of 20", 0, foot.thing(0, 1));
-        Due.due("thing(19, 1) of 20", 19, foot.thing(19, 1));
-        Due.due("thing(20, 1) of 20", Due.UNKNOWN, foot.thing(20, 1));
-        foot.make(20, 5);
-        Due.due("told(8) of 21", 20, foot.told(8));
-        Due.due("thing(0, 1) of 21", 1, foot.thing(0, 1));
-        Due.due("thing(18, 1) of 21", 19, foot.thing(18, 1));
-        Due.due("thing(19, 1) of 21", 20, foot.thing(19, 1));
-        Due.due("thing(19, 2) of 21", 5, foot.thing(19, 2));
-        Due.due("thing(20, 1) of 21", Due.UNKNOWN, foot.thing(20, 1));
+        foot.make(19, 7);
+        foot.year(1);
+        thingsAreFrom(foot, 0);
+        foot.make(20, 8);
+        foot.year(1);
+        thingsAreFrom(foot, 1);
         for (int i = 0; i < 20; i++) {
             foot.make(1, i % 12);
         }
+        Due.due("told(8) of 41", 20, foot.told(8));
         Due.due("thing(0, 2) of 41", 0, foot.thing(0, 2));
+        Due.due("thing(0, 3) of 41", 21, foot.thing(0, 3));
         Due.due("thing(19, 2) of 41", 7, foot.thing(19, 2));
+    }
+
+    /** Thing i was made in year i, of i feet and i left over by 12 twelfths. */
+    private static void thingsAreFrom(RulerFoot foot, int first) {
+        Due.due("told(8) from " + first, 20, foot.told(8));
+        for (int i = 0; i < 20; i++) {
+            int made = first + i;
+            int[] want = {1000 + 240 * made + 20 * (made % 12), made, made % 12, made};
+            for (int what = 0; what < 4; what++) {
+                Due.due("thing(" + i + ", " + what + ") from " + first, want[what], foot.thing(i, what));
+            }
+        }
+        Due.due("thing(20, 0) from " + first, Due.UNKNOWN, foot.thing(20, 0));
     }
 
     /** "LONGEST: the THING of most hairs; of like ones the earliest; NONE." */

@@ -25,8 +25,15 @@ final class Shown {
     }
 
     static void same(String what, RulerFoot one, RulerFoot other) {
-        List<String> got = new Shown(one).all();
-        List<String> want = new Shown(other).all();
+        compare(what, new Shown(one).all(true), new Shown(other).all(true));
+    }
+
+    /** As a realm that was left by a text with a FAULT. */
+    static void sameButFault(String what, RulerFoot one, RulerFoot other) {
+        compare(what, new Shown(one).all(false), new Shown(other).all(false));
+    }
+
+    private static void compare(String what, List<String> got, List<String> want) {
         int place = 0;
         while (place < got.size() && place < want.size() && got.get(place).equals(want.get(place))) {
             place++;
@@ -44,7 +51,7 @@ final class Shown {
         answers.add(call + " = " + answer);
     }
 
-    private List<String> all() {
+    private List<String> all(boolean withFault) {
         standing();
         tried();
         seen();
@@ -61,7 +68,9 @@ final class Shown {
             change("image " + i);
             add("seed of image " + i, foot.seed(7));
         }
-        add("fault", foot.fault());
+        if (withFault) {
+            add("fault", foot.fault());
+        }
         add("realm", foot.realm());
         add("fault of the text", foot.fault());
         add("nick of the text", foot.nick(0));

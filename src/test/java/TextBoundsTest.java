@@ -217,9 +217,13 @@ public final class TextBoundsTest {
         bad(4, 19, ROD + "n7;n1;n2;n3;n7;");
         bad(4, 19, ROD + "n1;n2;n3;n7;n7;");
         good(ROD + "n7;n8;n6;n70;n77;");
-        // By its figures it is another one, and a NICK of an earlier realm was not told in this one.
+        // A NICK of an earlier realm, or of a text with a FAULT, was not told in this one.
         RulerFoot foot = Due.realmOf(ROD + "n7;");
-        Due.due("realm() of a like nick", 24, Due.tell(foot, ROD + "n7;"));
+        for (int i = 0; i < 4; i++) {
+            Due.due("realm() of a like nick", 24, Due.tell(foot, ROD + "n7;"));
+        }
+        Due.due("realm() with a fault", -12, Due.tell(foot, ROD + "n9;n0;"));
+        Due.due("realm() of a nick behind a fault", 24, Due.tell(foot, ROD + "n9;"));
     }
 
     /** "6 OFFICES at most"; "3 a seventh 'o' (at it)" */
@@ -503,6 +507,11 @@ public final class TextBoundsTest {
         RulerFoot other = Due.realmOf(ROD + "n9;p7;");
         other.seed(3);
         Shown.same("an earlier realm", foot, other);
+        RulerFoot third = Due.realmOf("r50 3;n5;n6;o1 99;p9;p8;d5;");
+        Due.due("realm()", 51, Due.tell(third, "r51 2;n1;o1 1;o2 2;p1;p2;p3;d9,9;"));
+        Due.due("realm() with a fault", -13, Due.tell(third, "r52 2;n8;o1 1;p1;d9,9;d"));
+        Due.due("realm()", 24, Due.tell(third, ROD + "n9;p7;"));
+        Shown.same("three earlier texts", third, Due.realmOf(ROD + "n9;p7;"));
     }
 
     /** "-10 less the number of its FAULT (all else is as it was)" */
@@ -511,13 +520,7 @@ public final class TextBoundsTest {
         for (int kind = 1; kind <= 4; kind++) {
             RulerFoot foot = aRealm();
             Due.due("realm()", -10 - kind, Due.tell(foot, texts[kind - 1]));
-            // The other has a FAULT too, so that fault() is the same; it is told by one letter.
-            RulerFoot other = aRealm();
-            foot.feed('x');
-            foot.realm();
-            other.feed('x');
-            other.realm();
-            Shown.same("a text with fault " + kind, foot, other);
+            Shown.sameButFault("a text with fault " + kind, foot, aRealm());
         }
     }
 

@@ -15,6 +15,7 @@ public final class TriedBoundsTest {
         hadTakes0To999Hairs();
         hadIsIn20TimesAtMost();
         hadIsByNicksBelowTheWhole();
+        hadIsOfEveryPlace();
         partsAreFrom1ToTheWhole();
         partsAreHadInTwoTimes();
         foldTakes0To999Hairs();
@@ -225,6 +226,31 @@ public final class TriedBoundsTest {
         Due.due("had(21) by one hair", Due.NONE, least.had(21));
     }
 
+    /** By these lengths each place from 0 to 999 is had. */
+    private static void hadIsOfEveryPlace() {
+        int[] lengths = {240, 1, 3, 9, 27, 81};
+        int[] fewest = new int[1000];
+        java.util.Arrays.fill(fewest, 999);
+        fewest[0] = 0;
+        for (int times = 0; times < 20; times++) {
+            for (int from = 0; from < 1000; from++) {
+                for (int length : lengths) {
+                    for (int to : new int[] {from + length, from - length}) {
+                        if (to >= 0 && to < 1000) {
+                            fewest[to] = Math.min(fewest[to], fewest[from] + 1);
+                        }
+                    }
+                }
+            }
+        }
+        for (int first = 0; first < 1000; first += 250) {
+            RulerFoot foot = Due.realmOf("r240 0;n1;n3;n9;n27;n81;");
+            for (int x = first; x < first + 250; x++) {
+                Due.due("had(" + x + ") by six lengths", fewest[x], foot.had(x));
+            }
+        }
+    }
+
     private static void partsAre(RulerFoot foot, int... want) {
         Due.due("parts(NONE)", want.length, foot.parts(Due.NONE));
         for (int i = 0; i < want.length; i++) {
@@ -295,6 +321,13 @@ public final class TriedBoundsTest {
         postsAre(Due.realmOf("r24 0;" + offices + "p24;"), 1, 0, -1, -1, -1, -1, -1);
         postsAre(Due.realmOf("r24 0;" + offices + "p1;".repeat(5) + "p24;"), 1, 5, -1, -1, -1, -1, -1);
         postsAre(Due.realmOf("r24 0;o10 10;" + "p24;".repeat(6)), 1, 0);
+        // An earlier realm leaves nothing behind, whether it was asked or not.
+        RulerFoot later = Due.realmOf("r24 0;" + offices + "p24;".repeat(6));
+        postsAre(later, 6, 0, 1, 2, 3, 4, 5);
+        Due.due("realm()", 24, Due.tell(later, "r24 0;o20 20;o10 10;p24;p24;"));
+        postsAre(later, 1, -1, 0);
+        Due.due("realm() of nothing", 0, later.realm());
+        postsAre(later, 0);
     }
 
     /** "each OFFICE gets a PERSON, unlike ones, who fits, or none: the most OFFICES" */
@@ -515,6 +548,8 @@ public final class TriedBoundsTest {
         handsAre(2, 1, 20, 10, 30);
         handsAre(2, 7, 20, 20, 20, 20, 20, 20, 20, 40);
         handsAre(2, 7, 20, 20, 20, 20, 20, 20, 20, 0);
+        // From the mean, 28, and not from LONG, 20.
+        handsAre(2, 0, 21, 30, 31, 32);
     }
 
     /** "the HAND nearest to LONG; of like ones the least" */
