@@ -603,6 +603,7 @@ public final class RodBoundsTest {
         standsAt(drifted(3, 0, true), "lost, nothing made", 200, 50, 1, 0);
     }
 
+    /** "ahead of each a DRAW of 8": on 4 to 7 nothing is told, so nothing else is drawn */
     private static void driftDrawsOnceElse() {
         for (int chance = 4; chance < 8; chance++) {
             standsAt(drifted(chance, 0, false), "by chance " + chance, 197, 52, 0, 0);
@@ -610,6 +611,7 @@ public final class RodBoundsTest {
         }
     }
 
+    /** "THINGS kept"; "20 THINGS at most are kept, the oldest are lost" */
     private static void driftKeeps20Things() {
         RulerFoot foot = Due.realmOf("r240 0;");
         int seed = Draws.seedOf(3, 9);

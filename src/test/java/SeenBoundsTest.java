@@ -108,6 +108,7 @@ public final class SeenBoundsTest {
         rodsAre(below, 0, Due.NONE, Due.NONE);
     }
 
+    /** "pairs l, v by which all that is SEEN is so": all pairs, where nothing is */
     private static void rodsOfNothingSeen() {
         rodsAre(new RulerFoot(), 4560, 1, 991);
         RulerFoot torn = seen(1, 100);
@@ -345,6 +346,7 @@ public final class SeenBoundsTest {
         Due.due("seed of no realm", 7, none.seed(0));
     }
 
+    /** "IMAGES 0, 1 keep all of section 2, THE SEED": nothing that is SEEN, no BOOK, no TEXT */
     private static void imagesLeaveWhatIsSeen() {
         RulerFoot foot = Due.realmOf("r24 0;p60;");
         foot.keep(0);
@@ -385,6 +387,7 @@ public final class SeenBoundsTest {
         Due.due("warped() undone", 1006, foot.warped());
     }
 
+    /** "IMAGES, what could be undone are gone" */
     private static void imagesAreGoneBehindRealm() {
         RulerFoot foot = Due.realmOf("r24 0;");
         foot.keep(0);

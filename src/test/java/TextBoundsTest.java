@@ -107,6 +107,7 @@ public final class TextBoundsTest {
         return front + " ".repeat(240 - front.length() - end.length()) + end;
     }
 
+    /** "240 letters at most": the last letter counts, and the end behind it has a place of its own */
     private static void aTextOf240LettersIsReadToItsEnd() {
         String most = "r240 9;n235;n236;n237;n238;n239;" + "o99 99;".repeat(6) + "p999;".repeat(6)
                 + "d9,9,9,9,9,9,9,9,9,9,9,0";
@@ -314,6 +315,7 @@ public final class TextBoundsTest {
         Due.due("longAt(1, 1) of the most", 1005, Due.realmOf(ROD + "d9;").longAt(1, 1));
     }
 
+    /** "(SWAYS: .. once)"; "3 'r', 'd' again (at it)" */
     private static void swaysAreToldOnce() {
         bad(3, 9, ROD + "d4;d4;");
         bad(3, 13, ROD + "d4;p5; d;");
@@ -400,6 +402,7 @@ public final class TextBoundsTest {
         bad(1, 9, ROD + "d1 2;");
     }
 
+    /** "blanks (32)" */
     private static void blanksAreNumber32Alone() {
         for (int letter : new int[] {0, 9, 10, 13, 31, 33, 127, 160, 255}) {
             bad(1, 0, (char) letter + ROD);
@@ -439,6 +442,7 @@ public final class TextBoundsTest {
         bad(1, 9, ROD + "d4,");
     }
 
+    /** "FAULTS, at the first letter that has one" */
     private static void theFirstFaultIsTold() {
         bad(2, 1, "r11 10;x");
         bad(2, 4, "r24 10;r");

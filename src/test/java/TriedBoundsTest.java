@@ -68,6 +68,7 @@ public final class TriedBoundsTest {
         Due.due("longAt(0, 2) of no realm", Due.OUTSIDE, none().longAt(0, 2));
     }
 
+    /** "(-99 to 99)", "(1 at least)" of each YEAR that passes */
     private static void longAtIsHeldEachYear() {
         RulerFoot foot = Due.realmOf("r20 9;d9,0;");
         foot.warp(95);
@@ -159,6 +160,7 @@ public final class TriedBoundsTest {
         Due.due("planeWhen(60, 1) of like ones later", 24, later.planeWhen(60, 1));
     }
 
+    /** "PLANED: LONG is less by what it was WARPED by, either way (1 at least)" */
     private static void planeWhenIs1AtLeast() {
         RulerFoot foot = Due.realmOf("r24 0;d5;");
         foot.warp(-99);
