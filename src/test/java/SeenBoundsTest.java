@@ -137,11 +137,14 @@ public final class SeenBoundsTest {
             Due.due("door() of one by " + n, 1, seen(n, 20 * n).door());
         }
         Due.due("door() of two rods", 1, seen(9, 9).door());
+        // The rods are 1, -1; 2, -3; .. 5, -9: by 1 foot 0, -1, .. hairs, and no rod of no length is among them.
+        Due.due("door() of the shortest rods", 1, seen(2, 1).door());
     }
 
     /** "NONE: none parts them" */
     private static void doorOfNoneThatParts() {
-        Due.due("door() of one rod", Due.NONE, seen(9, 2169).door());
+        Due.due("door() of one rod, the longest", Due.NONE, seen(9, 2169).door());
+        Due.due("door() of one rod, the shortest", Due.NONE, seen(9, 0).door());
         Due.due("door() of no rod", Due.NONE, seen(9, 2170).door());
         RulerFoot foot = seen(1, 100);
         Due.due("door()", 2, foot.door());

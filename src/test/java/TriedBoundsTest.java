@@ -552,6 +552,10 @@ public final class TriedBoundsTest {
         handsAre(2, 7, 20, 20, 20, 20, 20, 20, 20, 0);
         // From the mean, 28, and not from LONG, 20.
         handsAre(2, 0, 21, 30, 31, 32);
+        // From the mean as hands(0) tells it, cut to 10: from ten and a half both would be as far.
+        handsAre(2, 1, 10, 11);
+        handsAre(2, 2, 10, 10, 11);
+        handsAre(2, 1, 10, 13, 10, 13);
     }
 
     /** "the HAND nearest to LONG; of like ones the least" */
